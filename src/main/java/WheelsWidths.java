@@ -121,7 +121,7 @@ public final class WheelsWidths {
     }
 
     public int load(int c, int v) {
-        if (!road.hasCart(c) || v < PART_LEAST[LOAD] || v > PART_MOST[LOAD]) return BAD;
+        if (!road.hasCart(c) || v < at(PART_LEAST, LOAD) || v > at(PART_MOST, LOAD)) return BAD;
         plans.drop();
         return road.swapPart(c, LOAD, v);
     }
@@ -522,6 +522,10 @@ public final class WheelsWidths {
             return (frosts >> h & 1L) != 0;
         }
 
+        private boolean hasFrostFrom(int h) {
+            return frosts >> h != 0;
+        }
+
         private void setFrost(int h, boolean is) {
             frosts = is ? frosts | 1L << h : frosts & ~(1L << h);
         }
@@ -531,7 +535,8 @@ public final class WheelsWidths {
         }
 
         private int part(int c, int what) {
-            return at(parts, c * PARTS + what);
+            int i = c * PARTS + what;
+            return i >= 0 && i < parts.length ? parts[i] : 0;
         }
 
         private int swapPart(int c, int what, int v) {
@@ -614,7 +619,7 @@ public final class WheelsWidths {
 
         private int append(long v) {
             for (int shift = 56; shift >= 0; shift -= 8) {
-                if (length < tape.length) tape[length] = (byte) (v >> shift);
+                if (length >= 0 && length < tape.length) tape[length] = (byte) (v >> shift);
                 length++;
             }
             return length;
@@ -796,7 +801,8 @@ public final class WheelsWidths {
             int c = told.carts;
             told.swapPart(c, KIND, kind);
             for (int what = WIDTH; what <= START; what++) {
-                int v = what == YARD || what == GOAL ? takeYard() : takeNumber(PART_LEAST[what], PART_MOST[what]);
+                boolean isYard = what == YARD || what == GOAL;
+                int v = isYard ? takeYard() : takeNumber(at(PART_LEAST, what), at(PART_MOST, what));
                 if (v < 0) return false;
                 if (what == GOAL && v == told.part(c, YARD)) return refuse(4, from);
                 told.swapPart(c, what, v);
@@ -878,6 +884,8 @@ public final class WheelsWidths {
         private final int[] thawed = new int[RUTS];
         private int frosts = 0;
         private int left = 0;
+        private int steps = 0;
+        private int lastStart = 0;
         private int waiting = 0;
 
         Run(Road road) {
@@ -894,20 +902,40 @@ public final class WheelsWidths {
             wipe(thawed, 0);
             frosts = 0;
             left = road.carts;
+            steps = 0;
+            lastStart = 0;
+            for (int c = 0; c < road.carts; c++) lastStart = Math.max(lastStart, road.part(c, START));
             waiting = 0;
         }
 
-        /** The ruts of a yard are of depth 0 now. */
         private void level(int y) {
             for (int w = 0; w < WIDTHS; w++) setDepth(rut(y, w), 0);
         }
 
         private void upTo(int h) {
-            for (int hour = 1; hour <= h; hour++) {
-                waiting = 0;
-                for (int i = 0; left > 0 && i < order.size; i++) moveIn(hour, at(order.carts, i));
-                if (road.isFrost(hour)) frosts++;
+            for (int hour = 1; hour <= h; hour++) goHour(hour);
+        }
+
+        /** Whether all are done by an order, when yards y and z (NONE: no yard) are of depth 0 now. */
+        private boolean allDone(Order by, int y, int z) {
+            begin(by);
+            if (y >= 0) level(y);
+            if (z >= 0) level(z);
+            // 2 divides one of two hours: if none goes in both, none ever will, unless a start or a frost is to come
+            int still = 0;
+            for (int hour = 1; hour <= HOURS && left > 0 && still < 2; hour++) {
+                boolean canChange = hour <= lastStart || road.hasFrostFrom(hour);
+                int before = steps;
+                goHour(hour);
+                still = canChange || steps > before ? 0 : still + 1;
             }
+            return left == 0;
+        }
+
+        private void goHour(int hour) {
+            waiting = 0;
+            for (int i = 0; left > 0 && i < order.size; i++) moveIn(hour, at(order.carts, i));
+            if (road.isFrost(hour)) frosts++;
         }
 
         private void moveIn(int hour, int c) {
@@ -928,6 +956,7 @@ public final class WheelsWidths {
         }
 
         private void enter(int c, int y, int w) {
+            steps++;
             put(yards, c, y);
             put(tolls, c, at(tolls, c) + road.tollOf(c, y, w));
             int kind = road.part(c, KIND);
@@ -997,9 +1026,7 @@ public final class WheelsWidths {
             sum = NONE;
             tried.begin(road.carts);
             for (int k = 0; k < Order.MANY; k++) {
-                run.begin(tried);
-                run.upTo(HOURS);
-                if (run.left == 0 && (sum == NONE || run.sumOfDone() < sum)) {
+                if (run.allDone(tried, NONE, NONE) && (sum == NONE || run.sumOfDone() < sum)) {
                     sum = run.sumOfDone();
                     order.copyOf(tried);
                 }
@@ -1012,15 +1039,15 @@ public final class WheelsWidths {
             hasMending = true;
             tried.begin(road.carts);
             setMending(0, NONE, NONE);
-            if (allDone(NONE, NONE)) return;
+            if (run.allDone(tried, NONE, NONE)) return;
             for (int y = 0; y <= road.last; y++) {
                 setMending(1, y, NONE);
-                if (isWorn(y) && allDone(y, NONE)) return;
+                if (isWorn(y) && run.allDone(tried, y, NONE)) return;
             }
             for (int y = 0; y <= road.last; y++) {
                 for (int z = y + 1; isWorn(y) && z <= road.last; z++) {
                     setMending(2, y, z);
-                    if (isWorn(z) && allDone(y, z)) return;
+                    if (isWorn(z) && run.allDone(tried, y, z)) return;
                 }
             }
             setMending(NONE, NONE, NONE);
@@ -1038,14 +1065,6 @@ public final class WheelsWidths {
                 if (at(road.depth, rut(y, w)) > 0) return true;
             }
             return false;
-        }
-
-        private boolean allDone(int y, int z) {
-            run.begin(tried);
-            if (y >= 0) run.level(y);
-            if (z >= 0) run.level(z);
-            run.upTo(HOURS);
-            return run.left == 0;
         }
     }
 
@@ -1255,7 +1274,7 @@ public final class WheelsWidths {
         }
 
         private int cellsOf(int k) {
-            return isSheet(k) ? sizes[k] : NONE;
+            return k >= 0 && k < sizes.length ? sizes[k] : NONE;
         }
 
         private void make(int k, int lane, int n) {

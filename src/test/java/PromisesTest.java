@@ -21,6 +21,7 @@ public final class PromisesTest {
         jamAndDeepest();
         goOn();
         bestOrder();
+        planning();
         mending();
         wayPlain();
         wayKinds();
@@ -71,6 +72,9 @@ public final class PromisesTest {
         T.due("feed to 400", x.feed(1), 400);
         T.due("end(0)", x.end(0), 400);
         T.due("end(1) of none", x.end(1), BAD);
+        x.feed(1);
+        T.due("end(8) of 8", x.end(8), 8);
+        x.end(0);
         // the highest byte first: "bog 3;  "
         T.due("feed", x.feed(0x626F6720333B2020L), 8);
         T.due("text", x.text(), 1);
@@ -107,6 +111,10 @@ public final class PromisesTest {
         T.refused(";", 0, 2);
         T.refused("3", 0, 2);
         T.refused("bogs 3;", 0, 2);
+        T.refused("bop 3;", 0, 2);
+        T.refused("zog 3;", 0, 2);
+        T.refused("cart .", 5, 1);
+        T.refused("cart 123", 5, 1);
         T.refused("bo 3;", 0, 2);
         T.refused("bog", 3, 2);
         T.refused("bog  ", 5, 2);
@@ -132,6 +140,8 @@ public final class PromisesTest {
         T.refused("bog 21;", 4, 3);
         T.refused("hill 21 0;", 5, 3);
         T.refused("hill 1 3;", 7, 3);
+        T.refused("smith 21 0;", 6, 3);
+        T.refused("toll 21 0 0;", 5, 3);
         T.refused("smith 1 10;", 8, 3);
         T.refused("toll 1 3 0;", 7, 3);
         T.refused("toll 1 2 10;", 9, 3);
@@ -195,6 +205,7 @@ public final class PromisesTest {
         T.refused("bog 11;x", 7, 2);
         T.refused("hill 1 0;rut 1 1 0;", 19, 7);
         T.refused("rut 1 1 0;hill 1 0;", 19, 7);
+        T.refused("rut 0 0 0;hill 0 1;", 19, 7);
         T.refused("rut 1 1 0;hill 1 0;bog 11;", 26, 6);
         T.refused("hill 20 1;yards 20;rut 20 2 1;", 30, 7);
         T.due("toll on a hill", T.told("hill 1 0;toll 1 1 5;rut 1 0 3;").yard(1, 21), 5);
@@ -420,6 +431,12 @@ public final class PromisesTest {
         T.due("what -1", x.deepest(0, -1), BAD);
         T.due("hour -1", x.deepest(-1, 0), BAD);
         T.due("hour 61", x.deepest(61, 0), BAD);
+        x.dig(4, 2, 0);
+        x.dig(5, 2, 40);
+        T.due("the deepest", x.deepest(60, 0), 39);
+        T.due("the deepest", x.deepest(60, 1), 17);
+        x = T.told("rut 0 0 7;");
+        T.due("the first rut", x.deepest(0, 0) * 10 + x.deepest(0, 1), 70);
         x = T.told("yards 5;hill 0 2;");
         T.due("all of depth 0", x.deepest(60, 0), 0);
         T.due("the least of the ruts that there are", x.deepest(60, 1), 2);
@@ -444,6 +461,9 @@ public final class PromisesTest {
         T.due("go(0) begins at once", x.go(0), 2);
         T.due("go to the end", x.go(60), 0);
         T.due("no carts", x.cart(0, 0), BAD);
+        x = T.told("cart plain 0 3 9 1 0 0;");
+        T.due("go into yard 0", x.go(1), 0);
+        T.due("its rut", x.yard(0, 10), 3);
         x = T.told("cart plain 0 3 9 0 2 9;");
         T.due("go(0)", x.go(0), 1);
         T.due("start 0", x.cart(0, 6), 0);
@@ -468,10 +488,72 @@ public final class PromisesTest {
         T.due("none, bad", x.order(13), BAD);
         x.fill(2);
         T.due("again", x.order(0), 10);
+        // one order alone is possible, the last one
+        x = T.told("cart plain 0 1 4 0 2 0;cart plain 0 1 3 0 2 0;cart plain 0 1 2 0 2 0;cart plain 0 1 1 0 2 0;"
+            + "cart plain 0 1 0 0 2 0;");
+        T.due("the last order", x.order(0), 20);
+        for (int i = 0; i < 5; i++) T.due("the last order " + i, x.order(10 + i), 4 - i);
+        // a sledge that is done in the last hour
+        x = T.told("yards 20;cart sledge 0 1 0 0 20 20;");
+        T.due("hour 60", x.done(0), 60);
+        T.due("hour 60", x.order(0), 60);
+        T.due("hour 60", x.mend(0), 0);
+        x = T.told("yards 20;cart sledge 0 1 0 0 20 20;cart sledge 0 1 0 0 20 20;");
+        T.due("hour 62", x.order(0), NONE);
+        // frost opens the way in hour 50, when nothing has gone for long
+        x = T.told("rut 1 0 5;frost 50;cart plain 0 1 4 0 2 0;");
+        T.due("frost", x.order(0), 52);
+        T.due("frost", x.mend(0), 0);
         x = new WheelsWidths();
         T.due("no carts", x.order(0), STATE);
         T.due("no carts", x.order(10), BAD);
         T.due("no carts", x.order(3), BAD);
+    }
+
+    /** Orders and mending are told anew behind each change. */
+    private static void planning() {
+        WheelsWidths x = T.told("rut 1 0 5;cart plain 0 1 4 0 2 0;cart smuggler 0 1 30 0 2 0;");
+        T.due("at first", plans(x), -4 * 10000 + 101);
+        x.keep(0);
+        x.dig(1, 0, 4);
+        T.due("dig", plans(x), 5 * 10000);
+        x.back(0);
+        T.due("back", plans(x), -4 * 10000 + 101);
+        x.fill(1);
+        T.due("fill", plans(x), 5 * 10000);
+        x.back(0);
+        plans(x);
+        x.shoe(0, 1);
+        T.due("shoe", plans(x), 4 * 10000);
+        x.back(0);
+        plans(x);
+        x.freeze(1, true);
+        x.freeze(2, true);
+        T.due("freeze", plans(x), 6 * 10000);
+        x.freeze(2, false);
+        T.due("thaw", plans(x), -4 * 10000 + 101);
+        x.back(0);
+        x.dig(1, 0, 3);
+        plans(x);
+        x.load(0, 9);
+        T.due("load", x.order(0), 5);
+        x.load(1, 9);
+        T.due("load", x.order(0), 5);
+        x.shoe(1, 2);
+        x.go(1);
+        T.due("go", plans(x), 2 * 10000);
+        Check.put(x, "cart plain 0 1 4 0 8 0;");
+        x.text();
+        T.due("text", plans(x), 8 * 10000);
+        x = T.told("rut 1 0 3;cart plain 0 1 4 0 2 0;cart plain 0 1 4 0 2 0;");
+        T.due("light", x.order(0) * 10 + x.order(10), 50);
+        x.load(0, 2);
+        T.due("heavy", x.order(0) * 10 + x.order(10), 51);
+    }
+
+    private static int plans(WheelsWidths x) {
+        int order = x.order(0);
+        return order * 10000 + 100 * x.mend(0) + (x.mend(0) > 0 ? x.mend(1) : 0);
     }
 
     private static void mending() {
@@ -496,6 +578,13 @@ public final class PromisesTest {
         T.due("bad", x.mend(3), BAD);
         T.due("bad", x.mend(-1), BAD);
         T.due("mending changes nothing", x.yard(1, 10), 9);
+        x = T.told("rut 0 1 9;rut 10 0 9;cart plain 1 1 8 4 0 0;cart plain 0 1 8 4 10 0;cart plain 0 1 8 1 2 0;");
+        T.due("the first and the last yard", x.mend(0) * 1000 + x.mend(1) * 100 + x.mend(2), 2010);
+        x.dig(0, 1, 0);
+        T.due("the last yard", x.mend(0) * 1000 + x.mend(1), 1010);
+        x.dig(0, 1, 9);
+        x.dig(10, 0, 0);
+        T.due("the first yard", x.mend(0) * 1000 + x.mend(1), 1000);
         T.due("no carts", new WheelsWidths().mend(0), 0);
         T.due("no carts", new WheelsWidths().mend(1), NONE);
         // the cart that is first makes the ruts deeper for the one behind it
@@ -700,6 +789,22 @@ public final class PromisesTest {
         T.due("rut", x.yard(1, 10), 9);
         T.due("tracks", x.count(2), 2);
         T.due("bog", x.yard(1, 1), 1);
+        // tracks come back as they were, not only their number
+        x.forget(0);
+        x.track(3, 0);
+        x.keep(1);
+        T.due("fits none", x.orders(0), 0);
+        x.back(0);
+        x.forget(0);
+        x.track(3, 2);
+        x.keep(0);
+        T.due("fits", x.orders(0), 1);
+        x.back(1);
+        T.due("other carts, other tracks", x.orders(0), 0);
+        x.shoe(1, 0);
+        T.due("fits", x.orders(0), 1);
+        x.back(0);
+        T.due("fits", x.orders(0), 1);
         T.due("keep bad", x.keep(2), BAD);
         T.due("keep bad", x.keep(-1), BAD);
         T.due("back bad", x.back(2), BAD);
@@ -732,6 +837,9 @@ public final class PromisesTest {
         x.lay(1, 0, 256 + 5);
         x.lay(1, 1, 0x12345602);
         T.due("bytes", x.read(1, 0, 0, 1), 1);
+        x.lay(1, 0, 99);
+        x.sheet(1, 0, 2);
+        T.due("a new row", x.read(1, 0, 0, 1), 1);
         x.lay(1, 1, 255);
         T.due("a sign", x.read(1, 0, 0, 1), -20);
         x.sheet(1, 1, 2);
@@ -745,7 +853,7 @@ public final class PromisesTest {
         T.due("ints", x.read(1, 2, 0, 1), -20);
         x.lay(1, 0, 7);
         T.due("ints", x.read(1, 2, 0, 1), 1);
-        T.due("tracks", x.count(2), 4);
+        T.due("tracks", x.count(2), 5);
     }
 
     private static void readTracks() {
