@@ -5,7 +5,9 @@ import java.util.Random;
 /** Long runs of calls, the same ones each time, whose answers are compared with the model's. */
 public final class ModelTest {
     private static final int RUNS = 600;
+    /** An object promises so many calls; a step makes fewer than STEP. */
     private static final int CALLS = 512;
+    private static final int STEP = 60;
     private static final String[] KINDS = {"plain", "double", "sledge", "hired", "smuggler", "plain", "odd"};
     private static final int[] ODD = {-1, -2, Integer.MIN_VALUE, Integer.MAX_VALUE, 3, 5, 7, 8, 9, 10, 11, 20, 21, 41, 60, 61, 100};
     private static final Check T = new Check();
@@ -23,7 +25,8 @@ public final class ModelTest {
             x = new WheelsWidths();
             m = new Model();
             calls = 0;
-            while (calls < CALLS) step();
+            while (calls <= CALLS - STEP) step();
+            while (calls < CALLS) due("yard " + calls % 11 + " 11", x.yard(calls % 11, 11), m.yard(calls % 11, 11));
         }
         System.out.println(taken + " texts taken");
         T.finish("ModelTest");
