@@ -127,6 +127,10 @@ public final class RunBoundsTest {
             due(kind + " way", x.way(0, 0, 0), 7 * least);
             due(kind + " way down", x.way(1, 1, 0), 18 * least);
         }
+        // each of five pays for itself
+        WheelsWidths x = Scene.told("toll 1 0 1;toll 2 1 2;toll 3 2 3;toll 4 0 4;toll 5 0 5;cart plain 0 1 30 0 1 0;cart plain 1 1 30 3 2 0;"
+            + "cart plain 2 1 30 2 3 0;cart plain 0 1 30 5 4 0;cart plain 0 1 30 6 5 0;");
+        for (int c = 0; c < 5; c++) due("cart " + c + " pays", x.paid(c, 60), c + 1);
         due("no toll", Scene.told("toll 1 0 0;cart plain 0 1 0 0 1 0;").paid(0, 60), 0);
         due("what is waited for is not paid", Scene.told("toll 1 0 9;rut 1 0 1;cart plain 0 1 0 0 1 0;").paid(0, 60), 0);
     }
@@ -317,6 +321,14 @@ public final class RunBoundsTest {
         x.freeze(59, true);
         due("frost in time", x.order(0), 61);
         due("frost in time", x.done(1), 60);
+        // the first order by which all are done is not the best one: in the bog the one that is off at once must go first
+        x = Scene.told("bog 5;cart plain 0 1 9 4 6 0;cart plain 1 1 9 6 5 0;");
+        due("by numbers", x.done(0) + x.done(1), 4);
+        due("the other one", x.order(0) * 100 + x.order(10) * 10 + x.order(11), 310);
+        x = Scene.told("bog 5;cart plain 1 1 9 6 5 0;cart plain 0 1 9 4 6 0;cart hired 2 1 9 0 1 0;");
+        due("the first one", x.order(0) * 1000 + x.order(10) * 100 + x.order(11) * 10 + x.order(12), 4012);
+        x = Scene.told("bog 5;cart hired 2 1 9 0 1 0;cart plain 0 1 9 4 6 0;cart plain 1 1 9 6 5 0;");
+        due("the first of the best", x.order(0) * 1000 + x.order(10) * 100 + x.order(11) * 10 + x.order(12), 4021);
         // sledges alone: none goes in hour 1
         for (int n = 1; n <= 5; n++) {
             x = Scene.told("cart sledge 0 1 0 0 3 0;".repeat(n));
