@@ -467,7 +467,9 @@ public final class TextBoundsTest {
     private static void takenTellsAll() {
         WheelsWidths x = Scene.full();
         x.end(0);
+        T.due("cast", x.read(0, 1, 0, 1), 0);
         T.due("a text of nothing", x.text(), 0);
+        T.due("torn stays", x.torn(), 3);
         WheelsWidths made = new WheelsWidths();
         for (int y = 0; y <= 11; y++) {
             int[] whats = {0, 1, 2, 10, 11, 12, 20, 21, 22};
