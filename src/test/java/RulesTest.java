@@ -15,6 +15,7 @@ import java.util.regex.Pattern;
 /** What LANGUAGE.md asks of the class, as far as a test can see it; run from the project's folder. */
 public final class RulesTest {
     private static final Check T = new Check();
+    private static final Path SOURCE = Path.of("src/main/java/WheelsWidths.java");
     private static final List<String> FORBIDDEN = List.of("throw", "throws", "try", "catch", "finally", "synchronized", "assert",
         "import", "package", "volatile", "transient", "native", "Object", "Exception", "Thread", "System", "Random", "instanceof");
 
@@ -22,6 +23,8 @@ public final class RulesTest {
         face();
         insideClasses();
         words();
+        methodsAreShort();
+        callsAreNotDeep();
         callsMakeNothing();
         T.finish("RulesTest");
     }
@@ -67,7 +70,7 @@ public final class RulesTest {
     }
 
     private static void words() throws IOException {
-        String source = Files.readString(Path.of("src/main/java/WheelsWidths.java"));
+        String source = Files.readString(SOURCE);
         String code = source.replaceAll("(?s)/\\*.*?\\*/", "").replaceAll("//[^\n]*", "");
         Matcher word = Pattern.compile("[A-Za-z_]\\w*").matcher(code);
         while (word.find()) T.due("the word " + word.group(), FORBIDDEN.contains(word.group()) ? 1 : 0, 0);
@@ -75,6 +78,28 @@ public final class RulesTest {
         for (int i = 0; i < source.length(); i++) {
             if (source.charAt(i) > 126) T.due("a sign above 126", source.charAt(i), 0);
         }
+    }
+
+    private static void methodsAreShort() throws IOException {
+        int from = 0;
+        String end = "";
+        for (List<String> lines = Files.readAllLines(SOURCE); from < lines.size(); from++) {
+            Matcher head = Pattern.compile("( +)[\\w \\[\\]]+\\(.*\\) \\{").matcher(lines.get(from));
+            if (!head.matches() || lines.get(from).matches(" *(if|for|while|switch) .*")) continue;
+            end = head.group(1) + "}";
+            int many = lines.subList(from, lines.size()).indexOf(end) + 1;
+            T.due("some sixty lines at most: " + lines.get(from), many >= 1 && many <= 60 ? 1 : 0, 1);
+        }
+        T.due("methods were found", end.isEmpty() ? 1 : 0, 0);
+    }
+
+    private static void callsAreNotDeep() {
+        CallTree calls = new CallTree(WheelsWidths.class);
+        for (Method m : WheelsWidths.class.getDeclaredMethods()) {
+            List<String> chain = calls.longestFrom("WheelsWidths." + m.getName());
+            T.due("at most eight deep: " + chain, chain.size() <= 8 ? 1 : 0, 1);
+        }
+        T.due("calls were followed", calls.longestFrom("WheelsWidths.where").size() > 3 ? 1 : 0, 1);
     }
 
     /** All rows are made with the object, so that a run of calls can not fill its room. */
